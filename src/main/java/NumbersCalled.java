@@ -1135,7 +1135,6 @@ public final class NumbersCalled {
         private void beckon(Asker one, Text law, int a, int c, int minute) {
             int wait = minute - plan.comes[a];
             times[a]++;
-            busyTill[c] = minute + 1;
             if (!one.isThere(wait, law.worth(Text.WAITS, one, wait, 0, 0))) {
                 if (times[a] >= plan.called) {
                     fate[a] = MISSED;

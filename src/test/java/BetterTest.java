@@ -82,6 +82,20 @@ public final class BetterTest {
         both("train(0), 2 of 4", y.train(0, 0), y.train(0, 1), 2, 313);
         y.change(0, 0, 8);
         both("train(0), 1 of 4", y.train(0, 0), y.train(0, 1), 1, 13);
+        // counters 0 to 2 have a break: the last letter of the last counter
+        y.forget();
+        for (int c = 0; c < 3; c++) {
+            y.change(c, 0, 0);
+            y.change(c, 2, 0);
+        }
+        both("train(0), the last of 4", y.train(0, 0), y.train(0, 1), 1, 33);
+        // the first letter of the first counter
+        NumbersCalled z = new NumbersCalled();
+        z.counter(0, 0);
+        z.pull(0, 100, 0);
+        both("train(0), the first", z.train(0, 0), z.train(0, 1), 1, 0);
+        z.pull(0, 1100, 60);
+        both("train(0), two of the first", z.train(0, 0), z.train(0, 1), 2, 1);
     }
 
     private static void rest() {
@@ -104,6 +118,12 @@ public final class BetterTest {
             y.pull(0, 100, 10 * a);
         }
         both("rest(0), always somebody", y.rest(0, 0), y.rest(0, 1), 110, 10);
+        // behind a call that found less
+        due.is("say(1) of it", y.say(1), 0);
+        y.pull(0, 1100, 0);
+        Due.law(y, "takes 10;waits 999;minds 0;");
+        due.is("say(1) of nothing that is minded", y.say(1), 0);
+        both("rest(0), one waits yet", y.rest(0, 0), y.rest(0, 1), 110, 70);
         due.is("rest(1, 0)", y.rest(1, 0), -5);
         due.is("rest(-1, 0)", y.rest(-1, 0), -5);
         due.is("rest(1, 2): -5 first", y.rest(1, 2), -5);
@@ -115,6 +135,9 @@ public final class BetterTest {
         NumbersCalled x = new NumbersCalled();
         due.is("stop(0), nobody", x.stop(0), 120);
         x.counter(1, 0);
+        x.pull(0, 100, 20);
+        due.is("stop(29), one alone", x.stop(29), 20);
+        x.forget();
         x.pull(0, 100, 0);
         x.pull(0, 500, 20);
         due.is("stop(70)", x.stop(70), 120);
@@ -168,6 +191,14 @@ public final class BetterTest {
         x.pull(1, 108, 0);
         x.change(0, 2, 1);
         both("call, in vain", x.call(0), x.call(1), 1, 60);
+        // with more 7 not from 9 to 17: the counter is free at 9, the ninth call is at 17, one more helps
+        NumbersCalled y = new NumbersCalled();
+        y.counter(1, 0);
+        y.change(0, 2, 0);
+        y.pull(1, 107, 0);
+        both("call, eight are in vain", y.call(0), y.call(1), 9, 18);
+        y.move(0, 1);
+        both("call, nine are in vain", y.call(0), y.call(1), 1, 60);
         due.is("call(2)", x.call(2), -2);
         due.is("call(-1)", x.call(-1), -2);
     }

@@ -14,6 +14,9 @@ public final class DayTest {
         likeOnes();
         theEndOfTheDay();
         missedBehindTheWrongLetter();
+        aheadWhoeverComesFirst();
+        theLawOfADay();
+        eachCallLivesItsDay();
         refusals();
         due.end();
     }
@@ -265,6 +268,75 @@ public final class DayTest {
         lost("sent on, gone, called 1", x, 1, 3, 2);
         x.set(1, 3);
         lost("sent on, gone, called 3", x, 1, 3, 3);
+    }
+
+    /** All wait when a break ends at 10: the one who comes last is ahead of the one who comes first. */
+    private static void aheadWhoeverComesFirst() {
+        int[] kinds = {0, 4, 0, 3};
+        int[] bases = {10, 10, 9, 10};
+        for (int who = 0; who < 4; who++) {
+            NumbersCalled x = new NumbersCalled();
+            x.counter(1, 0);
+            x.change(0, 2, 0);
+            x.set(0, who);
+            x.pull(0, 109, 1);
+            x.pull(kinds[who], 10 * bases[who] + 9, 9);
+            due.is("ahead, who " + who + ": of(0, 0)", x.of(0, 0), 2);
+            due.is("ahead, who " + who + ": is asker 0 ahead", x.of(0, 1) < x.of(1, 1) ? 1 : 0, who == 0 ? 1 : 0);
+            due.is("ahead, who " + who + ": sum(3)", x.sum(3), who == 2 ? 29 : who == 3 ? 40 : 30);
+        }
+        // the one who ends last, and waits longest, is the first by number
+        NumbersCalled x = new NumbersCalled();
+        x.counter(1, 0);
+        x.set(0, 1);
+        x.pull(0, 100, 0);
+        x.pull(4, 100, 0);
+        sums("the first is last", x, 2, 10, 10, 20, 0, 0, 0, 220);
+    }
+
+    /** In a day as in asks(): slow is of takes, said of neither, wait is minutes behind coming. */
+    private static void theLawOfADay() {
+        NumbersCalled x = new NumbersCalled();
+        x.counter(1, 4);
+        Due.law(x, "takes 10 + slow + said * 9 + wait;waits 14 + (slow + said) * 9;minds 1;");
+        x.pull(0, 100, 2);
+        x.pull(0, 100, 2);
+        served("the law of a day", x, 0, 2, 16, 0, 1);
+        served("the law of a day", x, 1, 16, 16 + 14 + 14, 0, 1);
+        x.change(0, 1, 5);
+        lost("the law of a day", x, 1, 3, 3);
+    }
+
+    /** Each of these is the first call behind a change. */
+    private static void eachCallLivesItsDay() {
+        NumbersCalled x = three();
+        due.is("three: harmed()", x.harmed(), 25);
+        x.forget();
+        due.is("two: harmed()", x.harmed(), 10);
+        x.forget();
+        due.is("one: idle(0)", x.idle(0), 230);
+        x.pull(0, 100, 0);
+        due.is("two: idle(0)", x.idle(0), 220);
+        x.move(1, 50);
+        due.is("moved: sum(3)", x.sum(3), 60);
+        x.move(1, 60);
+        due.is("moved: of(1, 1)", x.of(1, 1), 60);
+        // what was tried is gone
+        x.letter(0, 0);
+        x.rest(0, 0);
+        x.stop(0);
+        x.pay(1);
+        x.door(1);
+        x.call(0);
+        x.best(1, 0);
+        x.when(0, 9, 0);
+        x.train(0, 0);
+        x.drawn(5, 0);
+        x.odds(5, 5, 5, 0);
+        due.is("tried: harmed()", x.harmed(), 0);
+        due.is("tried: idle(0)", x.idle(0), 220);
+        due.is("tried: sum(3)", x.sum(3), 70);
+        due.is("tried: of(1, 1)", x.of(1, 1), 60);
     }
 
     private static void refusals() {

@@ -52,6 +52,13 @@ public final class HostTest {
         due.is("pulls of 0, 10, 0", x.pulls(2, 2, 0, 1), 1);
         x.sheet(2, 2, 3);
         due.is("pulls of zeros", x.pulls(2, 2, 0, 1), 0);
+        for (int i = 0; i < 3; i++) {
+            x.cell(2, i, 9);
+        }
+        x.sheet(2, 0, 3);
+        x.cell(2, 1, 10);
+        due.is("pulls of 0, 10, 0", x.pulls(2, 0, 0, 1), 1);
+        pulled("pulls of 0, 10, 0", x, 1, 0, 10, 0);
     }
 
     private static void cell() {

@@ -6,6 +6,7 @@ public final class RollTest {
         judgeAndFilm();
         sorts();
         laws();
+        eachLivesItsDay();
         which();
         refusals();
         due.end();
@@ -107,6 +108,27 @@ public final class RollTest {
         x.cell(0, 0, 11);
         x.cell(0, 1, 22);
         due.is("laws: text 3", x.laws(0), 8);
+    }
+
+    /** Each of these is the first call behind a change. */
+    private static void eachLivesItsDay() {
+        NumbersCalled x = three();
+        x.film(0);
+        x.move(0, 1);
+        due.is("laws, moved", x.laws(0), 0);
+        x.move(0, 0);
+        due.is("laws, moved back", x.laws(0), 1);
+        x.move(0, 1);
+        due.is("which, moved", x.which(0), 0);
+        x.move(0, 0);
+        due.is("which, moved back", x.which(0), 15);
+        x.move(0, 1);
+        due.is("judge, moved", x.judge(0), 0);
+        x.move(0, 0);
+        due.is("judge, moved back", x.judge(0), -1);
+        x.move(0, 1);
+        x.film(1);
+        due.is("film, moved", x.judge(1), -1);
     }
 
     private static void which() {

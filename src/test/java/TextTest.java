@@ -170,6 +170,9 @@ public final class TextTest {
         fault("takes 1;minds 1;", 8);
         fault("takes 1;waits 1;waits 1;", 16);
         fault("take 1;", 0);
+        fault("lakes 1;", 0);
+        fault("takes case;", 6);
+        fault("takes vase;", 6);
         fault("takess 1;", 0);
         fault("letters", 0);
         fault("takes letters ;", 6);

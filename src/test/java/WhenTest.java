@@ -122,8 +122,14 @@ public final class WhenTest {
         due.is("told(1, 4)", x.told(1, 4), 60);
         // 2 at 60 behind 1 waits 45: at 0 45, 20 25, 40 5 and no better till 100: 5 as well
         due.is("told(2, 4)", x.told(2, 4), 40);
-        // then 1 at 60 waits 30: 0: 45, 20: 25, 40: 5; 100: 0, as 2 is from 45 to 90
-        due.is("rests(5), the days behind", x.rests(5) > 0 ? 1 : 0, 1);
+        // 2 is from 45 to 90: 1 waits 30 at 60, 0 at 100; 2 waits 5 at 40, 0 at 60; and as two days ago
+        due.is("rests(1), the third day", x.rests(1), 2);
+        due.is("told(1, 4)", x.told(1, 4), 100);
+        due.is("told(2, 4)", x.told(2, 4), 60);
+        due.is("rests(5), without an end", x.rests(5), 10);
+        due.is("told(1, 4)", x.told(1, 4), 60);
+        due.is("told(2, 4)", x.told(2, 4), 40);
+        due.is("uneasy()", x.uneasy(), 2);
     }
 
     private static void when() {
