@@ -36,7 +36,8 @@ public final class ModelTest {
         for (int c = 0; c < counters; c++) {
             step(0);
         }
-        for (int i = 0; i < 3 + lot.nextInt(16); i++) {
+        int askers = lot.nextInt(19);
+        for (int i = 0; i < askers; i++) {
             step(9);
         }
         for (int i = 0; i < calls && left > 0 && !due.isWrong(); i++) {
