@@ -1,11 +1,5 @@
 /** Promises 10 to 14: the edges of askers, and of what their kinds are asked. */
 final class AskerBounds extends BoundsOf {
-    private static final Bounds.Hall FIFTEEN = () -> {
-        NumbersCalled x = Halls.FULL.make();
-        x.forget();
-        return x;
-    };
-
     /** One counter of each slow 0 and 9, one of each kind with base and more; by a law. */
     private static NumbersCalled kinds(String law, int baseAndMore) {
         NumbersCalled x = new NumbersCalled();
@@ -417,6 +411,11 @@ final class AskerBounds extends BoundsOf {
         is("THERE at 1", x.asks(0, 1, 1, 999, 1), 0);
         is("minds 0", x.asks(0, 1, 999, 0, 2), 0);
         is("minds 999", x.asks(0, 1, 0, 999, 2), 999);
+        NumbersCalled w = kinds("takes slow * 100 + said + 5;waits 3 + slow * 100 + said;minds slow * 100 + said + 3;", 999);
+        is("TAKES 5", w.asks(0, 0, 0, 999, 0), 5);
+        is("THERE at 3", w.asks(0, 1, 3, 999, 1), 1);
+        is("THERE at 4", w.asks(0, 1, 4, 999, 1), 0);
+        is("minds 3 + 7", w.asks(0, 1, 0, 7, 2), 10);
         NumbersCalled y = kinds("takes wait - 940;waits wait;minds wait;", 999);
         is("TAKES at wait 999", y.asks(0, 0, 999, 0, 0), 59);
         is("THERE at wait 999", y.asks(0, 0, 999, 0, 1), 1);

@@ -414,6 +414,18 @@ final class DayBounds extends BoundsOf {
         served(x, 1, 50, 100, 1);
     }
 
+    @Says({"slow: of takes SLOW of the COUNTER, else 0", "said: of minds what was said, else 0"})
+    static void promise15_slowIsOfTakesAlone() {
+        NumbersCalled x = Halls.by("takes 7 + slow + said * 30;waits 7 + 9 + (slow + said) * 30;minds 1;");
+        x.pull(0, 10, 0);
+        x.pull(0, 10, 0);
+        x.change(0, 1, 9);
+        served(x, 0, 0, 16, 1);
+        served(x, 1, 16, 32, 1);
+        Due.law(x, "takes 7 + slow + said * 30;waits 7 + 8 + (slow + said) * 30;minds 1;");
+        lost(x, 1, 3, 3);
+    }
+
     @Says("Who is called: one time more CALLED; the COUNTER is busy for that minute.")
     static void promise15_twoCountersCallTheSameInAMinute() {
         // more 8: not there from 10 to 19; both have a break till 10

@@ -119,6 +119,17 @@ final class PartsBounds extends BoundsOf {
         is("give(1, 0, 9)", x.give(1, 0, 9), 0);
     }
 
+    @Says("no more than risk (0 .. 1000) times 1000000")
+    static void promise32_moreThanRiskBySome() {
+        NumbersCalled x = new NumbersCalled();
+        is("over(38, 67, 21)", x.over(38, 67, 21), 912000089);
+        is("give(67, 21, 912)", x.give(67, 21, 912), 37);
+        is("over(17, 40, 4)", x.over(17, 40, 4), 874000808);
+        is("give(40, 4, 874)", x.give(40, 4, 874), 16);
+        is("over(34, 24, 2)", x.over(34, 24, 2), 993999813);
+        is("give(24, 2, 994)", x.give(24, 2, 994), 34);
+    }
+
     @Says("The greatest n (0 .. 40) by which that is no more than risk (0 .. 1000) times 1000000; 0: none is.")
     static void promise32_noneAndForty() {
         NumbersCalled x = new NumbersCalled();

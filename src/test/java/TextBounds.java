@@ -260,6 +260,28 @@ final class TextBounds extends BoundsOf {
     }
 
     @Says("of a WORD that is neither KEY nor NAME")
+    static void promise08_eachLetterOfAWord() {
+        for (String name : new String[] {"base", "more", "slow", "wait", "said", "letter"}) {
+            for (int i = 0; i < name.length(); i++) {
+                fault("takes " + name.substring(0, i) + "x" + name.substring(i + 1) + ";", 6);
+            }
+        }
+        for (int key = 0; key < 3; key++) {
+            String ahead = "takes 1;waits 1;".substring(0, 8 * key);
+            String word = "takes waits minds".substring(6 * key, 6 * key + 5);
+            for (int i = 0; i < 5; i++) {
+                fault(ahead + word.substring(0, i) + "x" + word.substring(i + 1) + " 1;", 8 * key);
+            }
+        }
+        for (String key : new String[] {"xr", "ox", "xnd", "axd", "anx"}) {
+            fault("takes 1 " + key + " 1;", 8);
+        }
+        for (String key : new String[] {"xot", "nxt", "nox"}) {
+            fault("takes " + key + " 1;", 6);
+        }
+    }
+
+    @Says("of a WORD that is neither KEY nor NAME")
     static void promise08_keysAreNoNames() {
         for (String key : new String[] {"takes", "waits", "minds", "or", "and"}) {
             fault("takes " + key + ";", 6);
@@ -486,6 +508,16 @@ final class TextBounds extends BoundsOf {
         minds("not - 1", 0);
         minds("not 2048*2048*512", 0);
         minds("not 2048*2048*1024", 1);
+        int[] of = {-2, -1, 0, 1, 2};
+        for (int a : of) {
+            minds("5 + (not " + a + ")", a == 0 ? 6 : 5);
+            for (int b : of) {
+                minds("5 + (" + a + " or " + b + ")", a != 0 || b != 0 ? 6 : 5);
+                minds("5 + (" + a + " and " + b + ")", a != 0 && b != 0 ? 6 : 5);
+                minds("5 + (" + a + " < " + b + ")", a < b ? 6 : 5);
+                minds("5 + (" + a + " = " + b + ")", a == b ? 6 : 5);
+            }
+        }
         minds("2 and - 1", 1);
         minds("2 and 0", 0);
         minds("0 or - 5", 1);

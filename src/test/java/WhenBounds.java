@@ -271,6 +271,23 @@ final class WhenBounds extends BoundsOf {
         }
     }
 
+    @Says("on each all ASKERS in turn: for whom BEST is less BAD than it is, truly COMES then")
+    static void promise29_theFirstAndTheSixteenth() {
+        // two counters: the first and the last asker come too late for theirs
+        NumbersCalled x = Halls.one();
+        x.counter(2, 0);
+        x.pull(0, 1010, 90);
+        for (int a = 1; a < 15; a++) {
+            x.pull(0, 10, a);
+        }
+        x.pull(0, 1010, 91);
+        x.set(2, 90);
+        is("rests(5)", x.rests(5), 2);
+        is("told(0, 4)", x.told(0, 4), 0);
+        is("told(15, 4)", x.told(15, 4), 20);
+        is("rests(5) again", x.rests(5), 0);
+    }
+
     /** Sixteen of all kinds and letters, three counters. */
     private static NumbersCalled crowd() {
         NumbersCalled x = new NumbersCalled();
