@@ -361,9 +361,11 @@ final class Model {
         final List<Life> lives = new ArrayList<>();
         final int[] idle = new int[4];
         final int[] busyTill = new int[4];
+        final Comparator<Life> first;
 
         Day(Hall h) {
             this.h = h;
+            first = first();
             for (int a = 0; a < h.askers.size(); a++) {
                 Life l = new Life();
                 l.number = a;
@@ -399,8 +401,11 @@ final class Model {
                 if (busyTill[c] > minute || pause) {
                     continue;
                 }
-                Life l = lives.stream().filter(o -> o.fate == Fate.WAITS && (counter[0] & 1 << o.letter) != 0)
-                        .min(first()).orElse(null);
+                Life l = null;
+                for (Life o : lives) {
+                    boolean canBe = o.fate == Fate.WAITS && (counter[0] & 1 << o.letter) != 0;
+                    l = canBe && (l == null || first.compare(o, l) < 0) ? o : l;
+                }
                 if (l == null) {
                     idle[c]++;
                 } else {
